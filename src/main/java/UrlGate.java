@@ -995,7 +995,10 @@ public final class UrlGate {
                 return AT_PATH;
             }
             out.takePath(base);
-            if (b == '?' || b == '#' || b == NONE) {
+            if (b == '?') {
+                return AT_QUERY;
+            }
+            if (b == '#' || b == NONE) {
                 out.takeQuery(base);
                 return AT_QUERY;
             }
@@ -1116,7 +1119,6 @@ public final class UrlGate {
             if (source.byteAt(here) != '?') {
                 return;
             }
-            out.query.cutTo(0);
             out.hasQuery = true;
             here++;
             while (here < source.length && source.byteAt(here) != '#') {

@@ -15,9 +15,9 @@ public final class ClearTest {
         check.due("not listed", gate.pass(0), 3);
         Check.list(gate, "a", true);
         check.due("not resolved", gate.pass(0), 4);
-        Check.resolveFour(gate, "x.a", 7);
+        Check.resolveFour(gate, "x.a", 1);
         check.due("in no range", gate.pass(0), 5);
-        gate.range(4, 7, 0, 0, 0, 32);
+        gate.range(4, 1, 0, 0, 0, 32);
         check.due("it passes again", gate.pass(0), 0);
         check.due("clear() of three", gate.clear(), 3);
         check.due("not open any more", Check.list(gate, "a", false), 1);

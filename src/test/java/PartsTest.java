@@ -117,5 +117,10 @@ public final class PartsTest {
         CHECK.due("no number of the old one", gate.number(1, 0), 0);
         Check.read(gate, 1, 0, "/c");
         CHECK.due("the BASE's number", gate.number(1, 0), 0xfffefdfc);
+        Check.read(gate, 2, UrlGate.NONE, "http://[1:2:3:4:5:6:7:8]");
+        Check.read(gate, 3, 2, "c");
+        for (int k = 0; k < 8; k++) {
+            CHECK.due("the BASE's number " + k, gate.number(3, k), k + 1);
+        }
     }
 }

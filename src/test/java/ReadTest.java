@@ -15,6 +15,7 @@ public final class ReadTest {
         tails();
         escapes();
         places();
+        onceMore();
         tooLong();
         CHECK.finish();
     }
@@ -35,6 +36,8 @@ public final class ReadTest {
         reads("", "http://a/b!", "http://a/b!");
         reads(BASE, " \t\n ", "http://u:p@h.c:81/x/y/z?q");
         fails("", " \t\n ", UrlGate.NO_SCHEME);
+        fails("", "!http://a", UrlGate.NO_SCHEME);
+        reads(BASE, "!b! ", "http://u:p@h.c:81/x/y/!b!");
     }
 
     private static void schemes() {
@@ -43,7 +46,8 @@ public final class ReadTest {
         reads("", "wss://a", "wss://a/");
         reads("", "HTTPS://a", "https://a/");
         reads("", "FTP://a", "ftp://a/");
-        for (String text : new String[] {"mailto:a", "httpx://a", "htt://a", "file:///a", "h1+-.:", "a:", "Z:b", "ftps://a"}) {
+        for (String text : new String[] {"mailto:a", "httpx://a", "htt://a", "file:///a", "h1+-.:", "a:", "Z:b", "ftps://a",
+            "A:", "z:", "azAZ09:", "jttp://a", "htts://a", "vs://a", "w://a", "wt://a"}) {
             fails("", text, UrlGate.STRANGE);
             fails(BASE, text, UrlGate.STRANGE);
         }
@@ -282,6 +286,23 @@ public final class ReadTest {
         CHECK.due("read once more", Check.read(gate, 1, UrlGate.NONE, "ws://z"), 0);
         CHECK.due("no rest of the old one", Check.written(gate, 1), "ws://z/");
         CHECK.due("place 2", gate.size(2, 0), UrlGate.BAD);
+    }
+
+    /** Nothing of an older RECORD is left in a place, however often it is read. */
+    private static void onceMore() {
+        UrlGate gate = new UrlGate();
+        String[] texts = {"ws://uu:pp@[1:2:3:4:5:6:7:8]:99/ss/tt?qq#ff", "http://a/?q#f", "http://u@b", "https://:p@1.2.3.4/#g", "ftp://c:1?r"};
+        String[] want = {texts[0], texts[1], "http://u@b/", texts[3], "ftp://c:1/?r"};
+        int k = 0;
+        for (int i = 0; i < 25; i++) {
+            k = i * i % texts.length;
+            CHECK.due("read " + texts[k], Check.read(gate, 0, UrlGate.NONE, texts[k]), 0);
+            CHECK.due("read " + texts[k], Check.written(gate, 0), want[k]);
+        }
+        for (int i = 0; i < 5; i++) {
+            Check.read(gate, 0, 0, i % 2 == 0 ? "?q" + i + "#f" + i : "#g" + i);
+        }
+        CHECK.due("by itself", Check.written(gate, 0), Check.readBy(want[k], "?q4#f4"));
     }
 
     /** A row of reads by the same place, until it is WRITTEN with just 1000 bytes. */
