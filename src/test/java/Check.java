@@ -61,8 +61,8 @@ final class Check {
     /** THE TEXT, byte by byte. */
     static String text(UrlGate gate) {
         StringBuilder out = new StringBuilder();
-        for (int i = 0; gate.at(i) != UrlGate.NONE; i++) {
-            out.append((char) gate.at(i));
+        for (int b = gate.at(0); b != UrlGate.NONE; b = gate.at(out.length())) {
+            out.append((char) b);
         }
         return out.toString();
     }

@@ -288,21 +288,22 @@ public final class ReadTest {
         CHECK.due("place 2", gate.size(2, 0), UrlGate.BAD);
     }
 
-    /** Nothing of an older RECORD is left in a place, however often it is read. */
+    /** Nothing of an older RECORD is left in a place, whatever was read before. */
     private static void onceMore() {
-        UrlGate gate = new UrlGate();
         String[] texts = {"ws://uu:pp@[1:2:3:4:5:6:7:8]:99/ss/tt?qq#ff", "http://a/?q#f", "http://u@b", "https://:p@1.2.3.4/#g", "ftp://c:1?r"};
         String[] want = {texts[0], texts[1], "http://u@b/", texts[3], "ftp://c:1/?r"};
-        int k = 0;
-        for (int i = 0; i < 25; i++) {
-            k = i * i % texts.length;
-            CHECK.due("read " + texts[k], Check.read(gate, 0, UrlGate.NONE, texts[k]), 0);
-            CHECK.due("read " + texts[k], Check.written(gate, 0), want[k]);
+        int n = texts.length;
+        for (int row = 0; row < n * n * n; row++) {
+            UrlGate gate = new UrlGate();
+            for (int k : new int[] {row / n / n, row / n % n, row % n}) {
+                CHECK.due("read " + texts[k], Check.read(gate, 0, UrlGate.NONE, texts[k]), 0);
+                CHECK.due("read " + texts[k], Check.written(gate, 0), want[k]);
+            }
+            for (int i = 0; i < 5; i++) {
+                Check.read(gate, 0, 0, i % 2 == 0 ? "?q" + i + "#f" + i : "#g" + i);
+            }
+            CHECK.due("by itself", Check.written(gate, 0), Check.readBy(want[row % n], "?q4#f4"));
         }
-        for (int i = 0; i < 5; i++) {
-            Check.read(gate, 0, 0, i % 2 == 0 ? "?q" + i + "#f" + i : "#g" + i);
-        }
-        CHECK.due("by itself", Check.written(gate, 0), Check.readBy(want[k], "?q4#f4"));
     }
 
     /** A row of reads by the same place, until it is WRITTEN with just 1000 bytes. */
