@@ -65,7 +65,7 @@ public final class EdgesOfGateTest {
     private static void listedOnceMore() {
         UrlGate gate = new UrlGate();
         for (int i = 1; i <= 12; i++) {
-            CHECK.due("the same for the " + i + "th time", Check.list(gate, "a", i % 3 == 0), i);
+            CHECK.due("the same, time " + i, Check.list(gate, "a", i % 3 == 0), i);
         }
         CHECK.due("and once more", Check.list(gate, "a", false), UrlGate.FULL);
     }
