@@ -25,9 +25,9 @@ public final class RoomTest {
     private static void makesLittle(String what, Consumer<UrlGate> run) {
         run.accept(new UrlGate());
         var bean = (com.sun.management.ThreadMXBean) ManagementFactory.getThreadMXBean();
-        long before = bean.getThreadAllocatedBytes(Thread.currentThread().getId());
+        long before = bean.getCurrentThreadAllocatedBytes();
         run.accept(new UrlGate());
-        long made = bean.getThreadAllocatedBytes(Thread.currentThread().getId()) - before;
+        long made = bean.getCurrentThreadAllocatedBytes() - before;
         CHECK.due(what + " make " + made + " bytes; few enough", made <= MOST_BYTES ? 1 : 0, 1);
     }
 
