@@ -18,6 +18,7 @@ public final class EdgesOfHostsTest {
         twoParts();
         threeParts();
         fourParts();
+        fourWritten();
         partsBeforeTheLast();
         bases();
         otherBytesInFour();
@@ -31,6 +32,7 @@ public final class EdgesOfHostsTest {
         fourNumbersElsewhere();
         zerosBeforeDigits();
         sixWritten();
+        sixDigits();
         CHECK.finish();
     }
 
@@ -209,6 +211,18 @@ public final class EdgesOfHostsTest {
         fails(UrlGate.FOUR, "1.2.3.256", "1.2.3.257", "1.2.3.0x100", "1.2.3.0400", "1.2.3.65535", "1.2.3.4294967296");
     }
 
+    /** "FOUR as four numbers with points between" - each of them in each place. */
+    private static void fourWritten() {
+        for (int n = 0; n < 256; n++) {
+            for (int k = 0; k < 4; k++) {
+                int[] four = {7, 7, 7, 7};
+                four[k] = n;
+                long bits = (long) four[0] << 24 | four[1] << 16 | four[2] << 8 | four[3];
+                CHECK.due("the " + k + "th is " + n, Check.host(String.valueOf(bits)), four[0] + "." + four[1] + "." + four[2] + "." + four[3]);
+            }
+        }
+    }
+
     /** "All but the last below 256" */
     private static void partsBeforeTheLast() {
         hosts("255.1", "255.0.0.1");
@@ -357,5 +371,17 @@ public final class EdgesOfHostsTest {
         hosts("[1:0:0:0:0:0:0:8]", "[1::8]");
         hosts("[0:2:0:4:0:6:0:8]", "[0:2:0:4:0:6:0:8]");
         hosts("[000F:00A0:0B00:C000:0DEF:0:1000:0100]", "[f:a0:b00:c000:def:0:1000:100]");
+    }
+
+    /** Just the digits that a number needs, whichever number it is. */
+    private static void sixDigits() {
+        for (int one = 1; one <= 0x1000; one *= 16) {
+            for (int n = 1; n < 16; n++) {
+                for (int number : new int[] {n * one - 1, n * one, n * one + 1}) {
+                    String digits = Integer.toHexString(number);
+                    CHECK.due("a number " + digits, Check.host(String.format("[1:%04X::1]", number)), number == 0 ? "[1::1]" : "[1:" + digits + "::1]");
+                }
+            }
+        }
     }
 }

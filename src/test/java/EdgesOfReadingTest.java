@@ -22,6 +22,7 @@ public final class EdgesOfReadingTest {
         noHostBeforeOthers();
         colonsInBrackets();
         portNumbers();
+        portDigits();
         portsOfSchemes();
         portWithoutDigits();
         portWithOtherBytes();
@@ -292,6 +293,18 @@ public final class EdgesOfReadingTest {
         fails("", "http://a:4294967377", UrlGate.PORT);
         fails("", "http://a:18446744073709551617", UrlGate.PORT);
         fails("", "http://a:" + "9".repeat(200), UrlGate.PORT);
+    }
+
+    /** "if there is a PORT : and it" - with just the digits that it needs. */
+    private static void portDigits() {
+        for (int ten = 1; ten <= 10000; ten *= 10) {
+            for (int n = 1; n <= 9; n++) {
+                for (int port : new int[] {n * ten - 1, n * ten, n * ten + 1}) {
+                    String want = port > 65535 ? String.valueOf(UrlGate.PORT) : port == 80 ? "http://a/" : "http://a:" + port + "/";
+                    reads("", "http://a:" + port, want);
+                }
+            }
+        }
     }
 
     /** "the SCHEME'S own: none" */
