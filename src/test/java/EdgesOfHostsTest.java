@@ -7,6 +7,7 @@ public final class EdgesOfHostsTest {
         escapedBytes();
         escapedOnceOnly();
         wrongBytes();
+        nothingGoesAtTheEnds();
         low();
         withoutBytes();
         foreignParts();
@@ -95,6 +96,21 @@ public final class EdgesOfHostsTest {
         hosts("~", "~");
         hosts("!", "!");
         fails(UrlGate.WRONG, "\u007f", "a\u007f", "\u0080", "\u00ff");
+    }
+
+    /** That bytes 0 .. 32 at both ends go, and 9, 10, 13, is said of READING alone (section 1). */
+    private static void nothingGoesAtTheEnds() {
+        for (int b = 0; b <= 32; b++) {
+            UrlGate gate = new UrlGate();
+            for (String text : new String[] {(char) b + "a", "a" + (char) b, (char) b + "1.2.3.4", "1.2.3.4" + (char) b, (char) b + "[::1]", "" + (char) b}) {
+                CHECK.due("list with " + b + " at an end", Check.list(gate, text, false), UrlGate.WRONG);
+                CHECK.due("resolve with " + b + " at an end", Check.resolveFour(gate, text, 0), UrlGate.WRONG);
+            }
+            CHECK.due("list with " + b + " behind ]", Check.list(gate, "[::1]" + (char) b, false), UrlGate.SIX);
+            CHECK.due("list with " + b + " in [ ]", Check.list(gate, "[" + (char) b + "::1]", false), UrlGate.SIX);
+            CHECK.due("a RECORD with " + b + " at both ends", Check.read(gate, 0, UrlGate.NONE, (char) b + "ws://a" + (char) b), 0);
+            CHECK.due("nothing is listed", gate.clear(), 0);
+        }
     }
 
     /** "all in LOW" */
